@@ -170,6 +170,7 @@ public final class EditGuess {
         if (book.examples() == 0) {
             return STATE;
         }
+        guess();
         if (!makesResult(line)) {
             return NO;
         }
@@ -192,6 +193,7 @@ public final class EditGuess {
         if (book.examples() == 0) {
             return STATE;
         }
+        guess();
         return makesResult(line) ? countAgreeing(line) : NO;
     }
 
@@ -199,6 +201,7 @@ public final class EditGuess {
         if (book.examples() == 0) {
             return STATE;
         }
+        guess();
         int found = NONE;
         long fewest = 0;
         for (int line = 0; line < book.pooled(); line++) {
@@ -295,14 +298,14 @@ public final class EditGuess {
         fitted = fitting.count();
         best.clear();
         if (fitted != 0) {
-            fitting.tellBest(best);
+            fitting.weigh();
+            fitting.tell(best);
         }
         guessed = true;
     }
 
-    /** Whether there is a best plan, and what it makes of a line of the pool, left in made, can be a result. */
+    /** Whether what the best plan makes of a line of the pool, which is left in made, can be a result. */
     private boolean makesResult(int line) {
-        guess();
         best.applyTo(book.line(line), made);
         return made.many() >= 1 && made.many() <= RESULT_MOST;
     }
@@ -320,24 +323,16 @@ public final class EditGuess {
         return agreed[line];
     }
 
-    /** The class of a sign: 0 letters, 1 figures, 2 the others; NONE: it can not stand in a line. */
-    private static int kindOf(int code) {
-        if (code >= 'a' && code <= 'e') {
-            return 0;
-        }
-        if (code >= '0' && code <= '4') {
-            return 1;
-        }
-        return code == '-' || code == '.' ? 2 : NONE;
-    }
-
-    /** Codes in a row, as many at most as it was made for. */
+    /** Codes in a row, as many at most as it was made for, each with its class. */
     private static final class Signs {
         private final int[] codes;
+        private final int[] kinds;
         private int many;
 
         Signs(int most) {
-            codes = new int[Math.max(most, 0)];
+            int size = Math.max(most, 0);
+            codes = new int[size];
+            kinds = new int[size];
         }
 
         int many() {
@@ -349,12 +344,24 @@ public final class EditGuess {
         }
 
         boolean add(int code) {
-            if (many >= codes.length) {
+            if (many >= codes.length || many >= kinds.length) {
                 return false;
             }
             codes[many] = code;
+            kinds[many] = kindOf(code);
             many++;
             return true;
+        }
+
+        /** The class of a sign: 0 letters, 1 figures, 2 the others; NONE: it can not stand in a line. */
+        private static int kindOf(int code) {
+            if (code >= 'a' && code <= 'e') {
+                return 0;
+            }
+            if (code >= '0' && code <= '4') {
+                return 1;
+            }
+            return code == '-' || code == '.' ? 2 : NONE;
         }
 
         /** 0, which is no sign's code, where there is none. */
@@ -362,25 +369,25 @@ public final class EditGuess {
             return i >= 0 && i < many ? codes[i] : 0;
         }
 
+        int kindAt(int i) {
+            return i >= 0 && i < many ? kinds[i] : NONE;
+        }
+
         void addFrom(Signs other, int from, int to) {
-            for (int i = Math.max(from, 0); i < to && i < other.many; i++) {
-                add(other.codes[i]);
+            for (int i = from; i < to && i < other.many; i++) {
+                add(other.at(i));
             }
         }
 
-        void take(Signs other, int from, int to) {
-            clear();
-            addFrom(other, from, to);
-        }
-
         void copy(Signs other) {
-            take(other, 0, other.many);
+            clear();
+            addFrom(other, 0, other.many);
         }
 
         /** Where the signs of a line that stand from a place on end, or as many of them as may. */
         int signsEnd(int from, int most) {
             int end = from;
-            while (end < many && end - from < most && kindOf(at(end)) != NONE) {
+            while (end < many && end - from < most && kindAt(end) != NONE) {
                 end++;
             }
             return end;
@@ -432,8 +439,10 @@ public final class EditGuess {
         /** The example's line ends at a place of the one row, what became of it starts at a place of the other. */
         void addExample(Signs line, int lineEnd, Signs result, int resultStart) {
             if (examples < EXAMPLES_MOST) {
-                exampleLines[examples].take(line, 0, lineEnd);
-                results[examples].take(result, resultStart, result.many());
+                exampleLines[examples].clear();
+                exampleLines[examples].addFrom(line, 0, lineEnd);
+                results[examples].clear();
+                results[examples].addFrom(result, resultStart, result.many());
                 examples++;
             }
         }
@@ -556,37 +565,24 @@ public final class EditGuess {
             return order < 3 ? order - 3 : order - 2;
         }
 
+        /** From the right too it is the begins of runs that are counted, as each run has just one. */
         private static int runBegin(Signs line, int kind, int turn) {
-            int left = turn > 0 ? turn : countRuns(line, kind) + 1 + turn;
+            int left = Math.abs(turn);
             for (int i = 0; i < line.many(); i++) {
-                if (begins(line, kind, i)) {
+                int place = turn > 0 ? i : line.many() - 1 - i;
+                if (line.kindAt(place) == kind && line.kindAt(place - 1) != kind) {
                     left--;
                     if (left == 0) {
-                        return i;
+                        return place;
                     }
                 }
             }
             return NONE;
         }
 
-        private static int countRuns(Signs line, int kind) {
-            int runs = 0;
-            for (int i = 0; i < line.many(); i++) {
-                if (begins(line, kind, i)) {
-                    runs++;
-                }
-            }
-            return runs;
-        }
-
-        private static boolean begins(Signs line, int kind, int i) {
-            return kindOf(line.at(i)) == kind && (i == 0 || kindOf(line.at(i - 1)) != kind);
-        }
-
         private static int runEnd(Signs line, int begin) {
-            int kind = kindOf(line.at(begin));
             int end = begin + 1;
-            while (end < line.many() && kindOf(line.at(end)) == kind) {
+            while (end < line.many() && line.kindAt(end) == line.kindAt(begin)) {
                 end++;
             }
             return end;
@@ -608,7 +604,8 @@ public final class EditGuess {
 
         void becomeText(Signs source, int from, int to) {
             isText = true;
-            text.take(source, from, to);
+            text.clear();
+            text.addFrom(source, from, to);
         }
 
         int price() {
@@ -740,9 +737,8 @@ public final class EditGuess {
             return mark >= 0 && mark < Marks.MANY ? places[mark] : NONE;
         }
 
-        /** How long a cut from a mark on can be, if the result is made up to a place. */
-        int longestCut(int mark, int reached) {
-            int from = placeOf(mark);
+        /** How long a cut from a place on can be, if the result is made up to another. */
+        int longestFrom(int from, int reached) {
             if (from < 0 || from > LINE_MOST || reached < 0 || reached > RESULT_MOST) {
                 return 0;
             }
@@ -751,8 +747,9 @@ public final class EditGuess {
 
         /** How many signs of the result a cut makes, if it is made up to a place; 0: the cut does not fit there. */
         int cutLength(int first, int second, int reached) {
-            int length = placeOf(second) - placeOf(first);
-            return length > 0 && length <= longestCut(first, reached) ? length : 0;
+            int from = placeOf(first);
+            int length = placeOf(second) - from;
+            return length > 0 && length <= longestFrom(from, reached) ? length : 0;
         }
     }
 
@@ -864,18 +861,8 @@ public final class EditGuess {
             }
         }
 
-        /** Tells the best plan; the rows are those that were counted, and there is a plan. */
-        void tellBest(Plan plan) {
-            weigh();
-            int end = lastState();
-            int state = 0;
-            for (int i = 0; i < RESULT_MOST && state < end; i++) {
-                state = tellPiece(state, plan);
-            }
-        }
-
-        /** What the cheapest pieces from each state on cost; only of states that can be reached. */
-        private void weigh() {
+        /** What the cheapest pieces from each state on cost; only of the states that counting has reached. */
+        void weigh() {
             int end = lastState();
             least[end] = 0;
             for (int state = end - 1; state >= 0; state--) {
@@ -894,36 +881,38 @@ public final class EditGuess {
             return state >= 0 && state < STATES ? least[state] : FAR;
         }
 
-        /** The state behind the best next piece. Of equal cost a cut goes ahead of a text, so cuts are tried first. */
-        private int tellPiece(int state, Plan plan) {
-            int aim = leastFrom(state);
-            reach(state);
-            for (int first = 0; first < Marks.MANY; first++) {
-                int target = canBegin(first) ? tellCut(state, first, aim, plan) : NONE;
-                if (target != NONE) {
-                    return target;
-                }
+        /** Tells the best plan of those that were weighed. Of equal cost a cut goes ahead of a text. */
+        void tell(Plan plan) {
+            int end = lastState();
+            int state = 0;
+            for (int i = 0; i < RESULT_MOST && state < end; i++) {
+                reach(state);
+                int target = tellCut(state, plan);
+                state = target != NONE ? target : tellText(state, plan);
             }
-            return tellText(state, aim, plan);
         }
 
-        private int tellCut(int state, int first, int aim, Plan plan) {
-            for (int second = 0; second < Marks.MANY; second++) {
-                int target = cutTarget(state, first, second);
-                int price = Piece.cutPrice(Marks.price(first), Marks.price(second));
-                if (target != NONE && price + leastFrom(target) == aim) {
-                    plan.next().becomeCut(first, second);
-                    return target;
+        /** The state behind the first cut, in the order of the marks' codes, that costs the least; NONE: only a text does. */
+        private int tellCut(int state, Plan plan) {
+            for (int first = 0; first < Marks.MANY; first++) {
+                int seconds = canBegin(first) ? Marks.MANY : 0;
+                for (int second = 0; second < seconds; second++) {
+                    int target = cutTarget(state, first, second);
+                    int price = Piece.cutPrice(Marks.price(first), Marks.price(second));
+                    if (target != NONE && price + leastFrom(target) == leastFrom(state)) {
+                        plan.next().becomeCut(first, second);
+                        return target;
+                    }
                 }
             }
             return NONE;
         }
 
-        private int tellText(int state, int aim, Plan plan) {
+        private int tellText(int state, Plan plan) {
             int longest = longestText();
             for (int length = 1; length <= longest; length++) {
                 int target = textTarget(state, length);
-                if (Piece.textPrice(length) + leastFrom(target) == aim) {
+                if (Piece.textPrice(length) + leastFrom(target) == leastFrom(state)) {
                     plan.next().becomeText(rows[0].result(), reached[0], reached[0] + length);
                     return target;
                 }
@@ -1011,7 +1000,7 @@ public final class EditGuess {
 
         private boolean canBegin(int mark) {
             for (int row = 0; row < many; row++) {
-                if (rows[row].longestCut(mark, reached[row]) == 0) {
+                if (rows[row].longestFrom(rows[row].placeOf(mark), reached[row]) == 0) {
                     return false;
                 }
             }
