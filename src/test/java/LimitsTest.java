@@ -143,7 +143,7 @@ public final class LimitsTest {
         Random random = new Random(7);
         for (int run = 0; run < 300; run++) {
             EditGuess x = new EditGuess();
-            for (int calls = 0; calls < CALLS; calls++) {
+            for (int calls = 0; calls < CALLS - 3; calls++) {
                 int n = numbers[random.nextInt(numbers.length)];
                 int m = numbers[random.nextInt(numbers.length)];
                 anyCall(x, random.nextInt(26), n, m, random);

@@ -1,12 +1,5 @@
-/** Each promise of the document by hand: ordinary calls, edges, and refused calls in the order of their answers. */
-public final class PromisesTest {
-    private static final int NONE = -6, UNKNOWN = -1, OUTSIDE = -2, STATE = -3, FULL = -4, NO = -5;
-    private static final int LOW = Integer.MIN_VALUE, HIGH = Integer.MAX_VALUE;
-
-    private final Check check = new Check();
-    private EditGuess x;
-    private String promise;
-
+/** Each promise of the document by hand, in ordinary use; its edges one by one are in CallsEdgesTest. */
+public final class PromisesTest extends Talk {
     public static void main(String[] args) {
         PromisesTest test = new PromisesTest();
         test.newObject();
@@ -35,67 +28,6 @@ public final class PromisesTest {
         test.told();
         test.constants();
         test.check.end();
-    }
-
-    // ---- how a promise is tested
-
-    private void fresh(String name) {
-        promise = name;
-        x = new EditGuess();
-    }
-
-    private void due(String call, long got, long want) {
-        check.due(promise + ": " + call, got, want);
-    }
-
-    /** Puts signs on the pad in place of those that are there. */
-    private void write(String signs) {
-        x.wipe();
-        for (int i = 0; i < signs.length(); i++) {
-            x.say(signs.charAt(i));
-        }
-    }
-
-    private int tell(String example) {
-        write(example);
-        return x.example();
-    }
-
-    private int ask(String line) {
-        write(line);
-        return x.pool();
-    }
-
-    private void made(String line, String want) {
-        write(line);
-        due("makes(-1) of " + line, x.makes(-1), want.length());
-        for (int i = 0; i < want.length(); i++) {
-            due("makes(" + i + ") of " + line, x.makes(i), want.charAt(i));
-        }
-        due("makes behind the last of " + line, x.makes(want.length()), NONE);
-    }
-
-    /** A text: (-1, how many, the first sign). */
-    private void bestIs(int cost, int[]... pieces) {
-        due("cost(-1)", x.cost(-1), cost);
-        due("cost(-2)", x.cost(-2), pieces.length);
-        for (int i = 0; i < pieces.length; i++) {
-            boolean text = pieces[i][0] == -1;
-            int at = text ? 1 : 0;
-            due("piece(" + i + ", 0)", x.piece(i, 0), text ? 1 : 0);
-            due("piece(" + i + ", 1)", x.piece(i, 1), pieces[i][at]);
-            due("piece(" + i + ", 2)", x.piece(i, 2), pieces[i][at + 1]);
-        }
-        due("cost behind the last", x.cost(pieces.length), NONE);
-        due("piece behind the last", x.piece(pieces.length, 0), UNKNOWN);
-    }
-
-    private static int[] cut(int first, int second) {
-        return new int[] {first, second};
-    }
-
-    private static int[] text(int many, char first) {
-        return new int[] {-1, many, first};
     }
 
     // ---- 1 told
