@@ -43,6 +43,7 @@ public final class TermsEdgesTest extends Talk {
         test.bestByFirstPiece();
         test.bestShorterText();
         test.agreeing();
+        test.agreeingBesideAllThatMayBe();
         test.askedOneToFive();
         test.askedFewest();
         test.check.end();
@@ -700,6 +701,31 @@ public final class TermsEdgesTest extends Talk {
         tellAnew("a>b");
         due("a text on a", x.agreeing(0), 1);
         due("a text on aba", x.agreeing(5), 1);
+    }
+
+    /**
+     * Of five unlike letters 4 marks tell the first place, 4 the last, and a LEFT and a RIGHT each of the 4 inside, where a
+     * piece may end and another begin, or not. Of four letters LEFT 5 and RIGHT 5 tell no place; what ends and what begins
+     * inside tell one place if both are LEFT or both RIGHT; of such places, each behind the one ahead, 21 rows are there.
+     */
+    private void agreeingBesideAllThatMayBe() {
+        fresh("AGREEING on a LINE, beside 3 EXAMPLES, all of 5 SIGNS");
+        long plans = 4 * 4 * 5 * 5 * 5 * 5;
+        tellAnew("abcde>abcde", "bcdea>bcdea", "cdeab>cdeab");
+        for (String line : new String[] {"deabc", "abcd", "abcdea", "eabcd"}) {
+            ask(line);
+        }
+        due("agreeing(1), on four SIGNS", x.agreeing(1), 3 * 3 * 21);
+        due("plans()", x.plans(), plans);
+        due("agreeing(0), on five SIGNS", x.agreeing(0), plans);
+        due("agreeing(2), on six SIGNS", x.agreeing(2), NO);
+        due("agreeing(3), on five SIGNS", x.agreeing(3), plans);
+        due("asked()", x.asked(), 1);
+        due("accept(1)", x.accept(1), FULL);
+        x.forget();
+        due("accept(1) beside two EXAMPLES", x.accept(1), 3);
+        due("plans()", x.plans(), 3 * 3 * 21);
+        due("agreeing(0), on five SIGNS", x.agreeing(0), 3 * 3 * 21);
     }
 
     private void askedOneToFive() {
