@@ -1059,7 +1059,7 @@ public final class EditGuess {
                 end += rows[row].result().many() * digit;
                 digit *= BASE;
             }
-            return end;
+            return Math.min(end, STATES - 1);
         }
     }
 }
